@@ -123,7 +123,7 @@ public final class GlyphPage {
     }
 
     public int winding(int glyph, int x, int y) {
-        if (!takesShape(glyph) || !isNear(x) || !isNear(y)
+        if (!takesShape(glyph) || !Curves.isNear(x) || !Curves.isNear(y)
                 || !curves.trace(shape, face, pixels, 0, 0)) {
             return NO_WINDING;
         }
@@ -135,7 +135,8 @@ public final class GlyphPage {
     }
 
     public int text(int x, int y, int width) {
-        if (tapeLength > TEXT_LIMIT || !isNear(x) || !isNear(y) || width < 0 || width > FAR) {
+        if (tapeLength > TEXT_LIMIT || !Curves.isNear(x) || !Curves.isNear(y)
+                || width < 0 || width > FAR) {
             return REFUSED;
         }
         int length = tapeLength;
@@ -191,10 +192,6 @@ public final class GlyphPage {
         return before;
     }
 
-    private static boolean isNear(int v) {
-        return v >= -FAR && v <= FAR;
-    }
-
     private void append(int number) {
         for (int shift = 24; shift >= 0; shift -= 8) {
             if (tapeLength < TAPE_LIMIT) {
@@ -204,12 +201,12 @@ public final class GlyphPage {
     }
 
     private boolean takesShape(int glyph) {
-        return face != null && glyph >= 0 && glyph < face.glyphs && shape.assemble(face, glyph, 0);
+        return face != null && glyph >= 0 && glyph < face.glyphs && shape.assemble(face, glyph);
     }
 
     /** Inks the shape that was taken last. */
     private int ink(int x, int y) {
-        if (!isNear(x) || !isNear(y) || !curves.trace(shape, face, pixels, x, y)) {
+        if (!Curves.isNear(x) || !Curves.isNear(y) || !curves.trace(shape, face, pixels, x, y)) {
             return REFUSED;
         }
         return page.fill(curves);
@@ -462,7 +459,7 @@ public final class GlyphPage {
 
         private boolean glyfIsSound(Shape shape) {
             for (int g = 0; g < glyphs; g++) {
-                if (!shape.assemble(this, g, 0)) {
+                if (!shape.assemble(this, g)) {
                     return false;
                 }
             }
@@ -562,7 +559,7 @@ public final class GlyphPage {
     /** One part of a composite glyph: which glyph it is and how that is moved. */
     private static final class Part {
         private static final int WORDS = 1, OFFSETS = 2, ONE_SCALE = 8, MORE = 32,
-                TWO_SCALES = 64, MATRIX = 128, UNIT = 16384;
+                TWO_SCALES = 64, MATRIX = 128, UNIT = 16384, HALF = 8192;
 
         int glyph = 0;
         boolean isLast = true;
@@ -580,11 +577,6 @@ public final class GlyphPage {
             boolean words = (flags & WORDS) != 0;
             dx = words ? (short) reader.two() : (byte) reader.one();
             dy = words ? (short) reader.two() : (byte) reader.one();
-            readMatrix(reader, flags);
-            return reader.isWhole() && (flags & OFFSETS) != 0 && glyph < glyphs;
-        }
-
-        private void readMatrix(Reader reader, int flags) {
             a = UNIT;
             b = 0;
             c = 0;
@@ -601,18 +593,15 @@ public final class GlyphPage {
                 c = (short) reader.two();
                 d = (short) reader.two();
             }
+            return reader.isWhole() && (flags & OFFSETS) != 0 && glyph < glyphs;
         }
 
         int movedX(int x, int y) {
-            return rounded((long) a * x + (long) c * y) + dx;
+            return (int) ((long) a * x + (long) c * y + HALF >> 14) + dx;
         }
 
         int movedY(int x, int y) {
-            return rounded((long) b * x + (long) d * y) + dy;
-        }
-
-        private static int rounded(long sum) {
-            return (int) (sum + 8192 >> 14);
+            return (int) ((long) b * x + (long) d * y + HALF >> 14) + dy;
         }
     }
 
@@ -651,13 +640,15 @@ public final class GlyphPage {
             return contours;
         }
 
-        /** False if the glyph is faulty; at depth 0 it begins anew, else it adds to what is there. */
-        boolean assemble(FontFile file, int g, int depth) {
-            if (depth == 0) {
-                points = 0;
-                contours = 0;
-                parts = 0;
-            }
+        /** False if the glyph is faulty; what stands here then is not to be used. */
+        boolean assemble(FontFile file, int g) {
+            points = 0;
+            contours = 0;
+            parts = 0;
+            return addGlyph(file, g, 0);
+        }
+
+        private boolean addGlyph(FontFile file, int g, int depth) {
             int from = file.glyphStarts[g];
             int to = file.glyphStarts[g + 1];
             if (from == to) {
@@ -683,7 +674,7 @@ public final class GlyphPage {
                 parts++;
                 int first = points;
                 if (!part.read(readers[depth], file.glyphs)
-                        || !assemble(file, part.glyph, depth + 1) || !move(part, first)) {
+                        || !addGlyph(file, part.glyph, depth + 1) || !move(part, first)) {
                     return false;
                 }
                 isDone = part.isLast;
@@ -767,7 +758,7 @@ public final class GlyphPage {
     }
 
     /**
-     * The curves of an outline on the page, each square * t^2 + slope * t + start for t from 0 to 1.
+     * The curves of an outline on the page, each square t t + slope t + start for t from 0 to 1.
      * All coordinates are doubled, as a middle may lie half a 64th off.
      */
     private static final class Curves {
@@ -788,6 +779,10 @@ public final class GlyphPage {
         private final int[] squareY = new int[LIMIT];
         private final int[] placedX = new int[LIMIT];
         private final int[] placedY = new int[LIMIT];
+
+        static boolean isNear(int v) {
+            return v >= -FAR && v <= FAR;
+        }
 
         /** False if a point lies too far out; the curves are then not to be used. */
         boolean trace(Shape shape, FontFile face, int pixels, int x, int y) {
@@ -829,7 +824,7 @@ public final class GlyphPage {
             addBox(startX[count], startY[count]);
         }
 
-        /** Bent by point i, from the middle of two points to that of two others (of one: itself). */
+        /** Bent by point i, from the middle of two points to that of two (the same one: itself). */
         private void addBend(int i, int from, int alsoFrom, int to, int alsoTo) {
             int bendX = 2 * placedX[i];
             int bendY = 2 * placedY[i];
