@@ -82,6 +82,25 @@ public final class FaultTest {
         due("17 tables", withTables(10), DIRECTORY);
         due("tags that do not rise", fallingTags(), DIRECTORY);
         due("tags above 2^31 rise too", highTags(), 0);
+        atTheEnd();
+    }
+
+    /** A table of zeros whose entry is led to the file's end and beyond; its sum stays right. */
+    private static void atTheEnd() {
+        FontMaker maker = FontMaker.plain();
+        maker.tables.put("zzzz", new byte[8]);
+        byte[] file = maker.file();
+        int entry = 12 + 7 * 16;
+        due("a table of zeros", file, 0);
+        due("7 of its bytes", put(cut(file, file.length - 1), entry + 14, 7), 0);
+        due("its last byte behind the file", cut(file, file.length - 1), DIRECTORY);
+        due("no byte at the file's end", put(put(file, entry + 10, file.length), entry + 14, 0), 0);
+        due("a byte at the file's end", put(put(file, entry + 10, file.length), entry + 14, 1),
+                DIRECTORY);
+        due("no byte behind the file's end",
+                put(put(file, entry + 10, file.length + 4), entry + 14, 0), DIRECTORY);
+        due("2^32 - 4 bytes", put(put(file, entry + 12, 65535), entry + 14, 65532), DIRECTORY);
+        due("an offset of 0", put(put(file, entry + 10, 0), entry + 14, 0), 0);
     }
 
     /** The entry of maxp stands again behind itself. */
@@ -232,6 +251,20 @@ public final class FaultTest {
         later.tables.put("glyf", FontMaker.bytes().two(1, 2).all(later.glyf()).done());
         later.tables.put("loca", FontMaker.bytes().two(2, 2, 2 + glyf / 2).done());
         due("the first does not begin at 0", later, 0);
+        FontMaker empty = FontMaker.plain();
+        empty.glyphs.set(1, new byte[0]);
+        empty.tables.put("glyf", new byte[2000]);
+        empty.tables.put("loca", new byte[6]);
+        due("3 numbers for 2 empty glyphs", empty, 0);
+        empty.tables.put("loca", new byte[5]);
+        due("2.5 numbers for 2 empty glyphs", empty, LOCA);
+        empty.tables.put("loca", new byte[4]);
+        due("2 numbers for 2 empty glyphs", empty, LOCA);
+        empty.form = 1;
+        empty.tables.put("loca", new byte[12]);
+        due("3 numbers of FORM 1", empty, 0);
+        empty.tables.put("loca", new byte[11]);
+        due("2.75 numbers of FORM 1", empty, LOCA);
         FontMaker longForm = FontMaker.plain();
         longForm.form = 1;
         longForm.tables.put("loca", FontMaker.bytes().four(0, 0, glyf).done());
@@ -266,6 +299,11 @@ public final class FaultTest {
         byte[] bad = FontMaker.bytes().two(0, 2, 3, 1).four(9999).two(3, 1).four(20).all(codes)
                 .done();
         dueWith("cmap", bad, "the first 3, 1 is bad", CMAP);
+        // The subtable may lie in the entries behind the one that counts.
+        byte[] inEntries = FontMaker.bytes().two(0, 5, 3, 1).four(12)
+                .two(4, 24, 0, 2, 0, 0, 0, 65535, 0, 65535, 1, 0).zeros(8).done();
+        dueWith("cmap", inEntries, "5 entries and no more", 0);
+        dueWith("cmap", cut(inEntries, 43), "a byte of the last entry is missing", CMAP);
     }
 
     private static void codes() {
@@ -400,6 +438,11 @@ public final class FaultTest {
         dueGlyph("flags without 2", part(1, 1, 0, 0), GLYF);
         dueGlyph("a glyph that is none", part(3, 3, 0, 0), GLYF);
         dueGlyph("a glyph 65535", part(3, 65535, 0, 0), GLYF);
+        FontMaker most = manyGlyphs(64);
+        most.glyphs.set(2, part(3, 63, 0, 0));
+        due("the last of 64 glyphs", most, 0);
+        most.glyphs.set(2, part(3, 64, 0, 0));
+        due("the one behind the last of 64 glyphs", most, GLYF);
         dueGlyph("itself", part(3, 2, 0, 0), GLYF);
         dueGlyph("an empty part", part(3, 0, 9, 9), 0);
         dueGlyph("more, but none there", part(35, 1, 0, 0), GLYF);
@@ -459,6 +502,8 @@ public final class FaultTest {
         maker.add(FontMaker.simple(dots(1)), 0);
         maker.add(FontMaker.composite(2, 0, 0, 2, 0, 0, 4, 0, 0), 0);
         due("257 points", maker, GLYF);
+        maker.glyphs.set(5, FontMaker.composite(2, 0, 0, 4, 0, 0, 2, 0, 0));
+        due("257 points, many at last", maker, GLYF);
         FontMaker contours = with(FontMaker.simple(dots(16)));
         contours.add(FontMaker.composite(2, 0, 0, 2, 0, 0), 0);
         due("32 contours", contours, 0);
@@ -503,6 +548,7 @@ public final class FaultTest {
         dueKern("version 1", put(kern, 0, 1), KERN);
         dueKern("no subtable", put(kern, 2, 0), KERN);
         dueKern("2 subtables", put(kern, 2, 2), 0);
+        dueKern("256 subtables", put(kern, 2, 256), 0);
         dueKern("65535 subtables", put(kern, 2, 65535), 0);
         dueKern("a number that means nothing", put(kern, 4, 99), 0);
         dueKern("a length one less", put(kern, 6, 25), KERN);

@@ -235,11 +235,11 @@ final class FontMaker {
             byte[] table = entry.getValue();
             directory.all(entry.getKey().getBytes(java.nio.charset.StandardCharsets.ISO_8859_1));
             directory.four(sum(table, entry.getKey().equals("head")), place, table.length);
-            // What stands between two tables means nothing, so it is not left 0.
+            // 1 rather than 0: read as a part of the table, it must not look like nothing.
             int pad = (4 - table.length % 4) % 4;
             body.all(table);
             for (int i = 0; i < pad; i++) {
-                body.one(85);
+                body.one(1);
             }
             place += table.length + pad;
         }

@@ -145,6 +145,13 @@ public final class PromiseTest {
         due("glyph(1)", page.glyph(1), 1);
         due("glyph(101), behind all segments", page.glyph(101), 0);
         due("glyph(65535), behind all segments", page.glyph(65535), 0);
+        byte[] codes = maker.codes();
+        codes[16] = -1;
+        codes[17] = -1;
+        maker.tables.put("cmap", FontMaker.cmap(codes));
+        due("font", maker.load(page), 0);
+        due("glyph(101), the number between END and START means nothing", page.glyph(101), 0);
+        due("glyph(1)", page.glyph(1), 1);
     }
 
     private static void glyphByRange() {
@@ -176,7 +183,7 @@ public final class PromiseTest {
         FontMaker maker = FontMaker.plain();
         maker.segments.clear();
         maker.segments.add(new int[] {10, 20, 0, 3});
-        byte[] codes = maker.codes(0x0700, 0x01FF, 0x0001);
+        byte[] codes = maker.codes(0x0700, 0x01FF, 0);
         maker.tables.put("cmap", FontMaker.cmap(FontMaker.bytes().all(codes).one(1, 1).done()));
         GlyphPage page = new GlyphPage(4, 4);
         due("font", maker.load(page), 0);
@@ -231,6 +238,12 @@ public final class PromiseTest {
             due("look(" + g + ", 3)", page.look(g, 3), GlyphPage.REFUSED);
         }
         due("look(0, -1)", page.look(0, -1), GlyphPage.REFUSED);
+        while (maker.glyphs.size() < 64) {
+            maker.add(new byte[0], 1);
+        }
+        due("font", maker.load(page), 0);
+        due("look(63, 2)", page.look(63, 2), 0);
+        due("look(64, 2)", page.look(64, 2), GlyphPage.NONE);
     }
 
     private static void duePoint(GlyphPage page, int g, int k, int... want) {
@@ -305,6 +318,11 @@ public final class PromiseTest {
         duePoint(page, outer, 0, -61, 67, 1, 0);
         duePoint(page, outer, 6, 2, 3, 1, 4);
         duePoint(page, outer, 7, 1, 0, 0, 4);
+        maker.add(FontMaker.bytes().two(-1).zeros(8)
+                .two(3 + 64, dot, 0, 0, 8191, 8191).done(), 0);
+        due("font", maker.load(page), 0);
+        duePoint(page, outer + 1, 2, 0, 0, 1, 1);
+        duePoint(page, outer + 1, 0, 1, 2, 1, 0);
         greatSums();
     }
 
@@ -402,9 +420,11 @@ public final class PromiseTest {
         int out = maker.add(FontMaker.simple(new int[][] {{0, 0, 1, 100, 100, 0}}), 0);
         int two = maker.add(FontMaker.simple(new int[][] {{0, 0, 0, 100, 100, 0}}), 0);
         int flat = maker.add(FontMaker.simple(new int[][] {{0, 0, 1, 100, 0, 0, 50, 0, 1}}), 0);
+        int thirds = maker.add(FontMaker.simple(new int[][] {{0, 0, 0, 1, 0, 0, 51, 0, 0}}), 0);
         GlyphPage page = new GlyphPage(4, 4);
         due("font", maker.load(page), 0);
         int[][] places = {
+            {thirds, 0, 0, 0}, {thirds, 1, 0, 1000}, {thirds, 38, 0, 1000}, {thirds, 39, 0, 0},
             {bow, 100, -100, 1000}, {bow, 100, -99, 1}, {bow, 100, -101, 0}, {bow, 50, -75, 1000},
             {bow, 50, -76, 0}, {bow, 50, -74, 1}, {bow, 99, -100, 0}, {bow, 101, -100, 0},
             {bow, 100, 0, 1000}, {bow, 100, -200, 0}, {bow, 0, 0, 1000}, {bow, -1, 0, 0},
@@ -467,9 +487,42 @@ public final class PromiseTest {
         due("out of the page", page.stamp(1, 1024, 640), 0);
         due("out of the page", page.stamp(1, -640, 640), 0);
         due("out of the page", page.stamp(1, 0, 0), 0);
+        manyCurves();
         due("all of the page", allOf(64), 4096);
         due("all of the page", allOf(1), 1);
         sizes();
+    }
+
+    /** 256 curves, then one: nothing of the others may be left. */
+    private static void manyCurves() {
+        FontMaker maker = FontMaker.plain();
+        int[] row = new int[3 * 128];
+        for (int i = 0; i < 128; i++) {
+            row[3 * i] = i % 2 * 64;
+            row[3 * i + 1] = i * 8;
+            row[3 * i + 2] = 1;
+        }
+        int comb = maker.add(FontMaker.simple(new int[][] {row}), 0);
+        int combs = maker.add(FontMaker.composite(comb, 0, 0, comb, 512, 0), 0);
+        int dot = maker.add(FontMaker.simple(new int[][] {{0, 0, 0}}), 0);
+        int none = maker.add(new byte[12], 0);
+        GlyphPage page = new GlyphPage(16, 16);
+        due("font", maker.load(page), 0);
+        due("256 points", page.look(combs, 2), 256);
+        due("the last line of 256", page.winding(combs, 544, -508), 1000);
+        int set = page.stamp(combs, 0, 1024);
+        due("both halves alike", page.row(7), (page.row(7) & 255) * 257);
+        CHECK.isTrue("some are set", set >= 16);
+        due("clear", page.clear(), set);
+        due("a dot on a centre", page.stamp(dot, 96, 160), 1);
+        due("its row", page.row(2), 2);
+        due("a dot beside it", page.stamp(dot, 97, 160), 0);
+        due("a dot below it", page.stamp(dot, 96, 161), 0);
+        due("a dot at the last centre", page.stamp(dot, 992, 992), 1);
+        due("a dot behind the last centre", page.stamp(dot, 1056, 992), 0);
+        due("a dot before the first centre", page.stamp(dot, -32, 32), 0);
+        due("no contours", page.stamp(none, 96, 160), 0);
+        due("inked", page.inked(), 2);
     }
 
     private static long allOf(int side) {
