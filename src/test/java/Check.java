@@ -2,13 +2,19 @@
 final class Check {
     private int wrong = 0;
     private int all = 0;
+    private String words = "";
+
+    /** What follows is due to these words of the document. */
+    void sentence(String words) {
+        this.words = " (" + words + ")";
+    }
 
     void due(String call, long got, long want) {
         all++;
         if (got != want) {
             wrong++;
             if (wrong < 50) {
-                System.out.println(call + " answered " + got + ", due is " + want);
+                System.out.println(call + " answered " + got + ", due is " + want + words);
             }
         }
     }

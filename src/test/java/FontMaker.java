@@ -1,5 +1,6 @@
 import java.io.ByteArrayOutputStream;
 import java.util.ArrayList;
+import java.util.Arrays;
 import java.util.List;
 import java.util.Map;
 import java.util.TreeMap;
@@ -256,16 +257,24 @@ final class FontMaker {
         return sum & 0xFFFFFFFFL;
     }
 
-    /** Feeds bytes to the tape, cut to their number. */
+    /** Feeds bytes to an empty tape; the odd ones first, so that as many go in as it can have. */
     static void feed(GlyphPage page, byte[] bytes) {
-        for (int i = 0; i < bytes.length; i += 20) {
-            int[] numbers = new int[5];
-            for (int k = 0; k < 20 && i + k < bytes.length; k++) {
-                numbers[k / 4] |= (bytes[i + k] & 255) << 8 * (3 - k % 4);
-            }
-            page.feed(numbers[0], numbers[1], numbers[2], numbers[3], numbers[4]);
+        int odd = bytes.length % 20;
+        if (odd > 0) {
+            feedTwenty(page, Arrays.copyOf(Arrays.copyOf(bytes, odd), 20), 0);
         }
-        page.end(bytes.length);
+        page.end(odd);
+        for (int i = odd; i < bytes.length; i += 20) {
+            feedTwenty(page, bytes, i);
+        }
+    }
+
+    private static void feedTwenty(GlyphPage page, byte[] bytes, int from) {
+        int[] numbers = new int[5];
+        for (int k = 0; k < 20; k++) {
+            numbers[k / 4] |= (bytes[from + k] & 255) << 8 * (3 - k % 4);
+        }
+        page.feed(numbers[0], numbers[1], numbers[2], numbers[3], numbers[4]);
     }
 
     int load(GlyphPage page) {

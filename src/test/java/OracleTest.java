@@ -80,7 +80,9 @@ public final class OracleTest {
         boolean even = below(3) > 0;
         maker.units = even ? 1024 : between(16 + 1000, 3000);
         int size = even ? 16 << below(5) / 3 : between(4, 64);
-        GlyphPage page = new GlyphPage(between(1, 64), between(1, 64));
+        int width = between(1, 64);
+        int height = between(1, 64);
+        GlyphPage page = new GlyphPage(width, height);
         CHECK.due("font in round " + round, maker.load(page), 0);
         page.size(size);
         int on = 0;
@@ -94,28 +96,30 @@ public final class OracleTest {
             CHECK.due("round " + round + " winding(" + x + ", " + y + ")",
                     page.winding(g, x, y), want);
         }
-        return on + stampRound(round, maker, page, contours, size);
+        boolean evenly = below(4) > 0;
+        int x = evenly ? 32 * between(0, 64) : between(-500, 3000);
+        int y = evenly ? 32 * between(0, 64) : between(-500, 3000);
+        int set = page.stamp(g, x, y);
+        Oracle placed = new Oracle(onPage(contours, maker.units, size, x, y));
+        return on + stampRound("round " + round + " stamp at " + x + ", " + y, page, placed,
+                new int[] {width, height, set});
     }
 
-    private static int stampRound(int round, FontMaker maker, GlyphPage page, int[][] contours,
-            int size) {
-        boolean even = below(4) > 0;
-        int x = even ? 32 * between(0, 64) : between(-500, 3000);
-        int y = even ? 32 * between(0, 64) : between(-500, 3000);
-        Oracle oracle = new Oracle(onPage(contours, maker.units, size, x, y));
-        int set = page.stamp(2, x, y);
-        int want = 0;
+    /** Row by row: an object is good for 512 calls alone. */
+    private static int stampRound(String what, GlyphPage page, Oracle oracle, int[] sides) {
+        int all = 0;
         int on = 0;
-        for (int j = 0; j < 64; j++) {
-            for (int i = 0; i < 64 && page.pixel(i, j) != GlyphPage.NONE; i++) {
+        for (int j = 0; j < sides[1]; j++) {
+            long want = 0;
+            for (int i = 0; i < sides[0]; i++) {
                 int winding = oracle.windingAt(64 * i + 32, 64 * j + 32);
-                want += winding != 0 ? 1 : 0;
+                want |= winding != 0 ? 1L << i : 0;
                 on += winding == Oracle.ON_CURVE ? 1 : 0;
-                CHECK.due("round " + round + " stamp at " + x + ", " + y + ": pixel(" + i + ", " + j
-                        + ")", page.pixel(i, j), winding != 0 ? 1 : 0);
             }
+            all += Long.bitCount(want);
+            CHECK.due(what + ": row(" + j + ")", page.row(j), want);
         }
-        CHECK.due("round " + round + " stamp", set, want);
+        CHECK.due(what, sides[2], all);
         return on;
     }
 
@@ -198,7 +202,7 @@ public final class OracleTest {
         int width = between(0, 3000);
         FontMaker.feed(page, text.toString());
         int count = page.text(7, 300, width);
-        List<int[]> lines = lines(text.toString(), stamps, maker.units, size, width);
+        List<int[]> lines = lines(text.toString(), maker, size, width);
         CHECK.due("text round " + round, count, lines.size());
         long drop = scaled(maker.ascent - maker.descent + maker.gap, maker.units, size);
         for (int k = 0; k < lines.size(); k++) {
@@ -207,47 +211,55 @@ public final class OracleTest {
                 CHECK.due("text round " + round + " line(" + k + ", " + what + ")",
                         page.line(k, what), line[what]);
             }
-            write(stamps, text.substring(line[0], line[1]), maker.units, size,
-                    (int) (300 + k * drop));
+            write(stamps, text.substring(line[0], line[1]), maker, size, (int) (300 + k * drop));
         }
         for (int j = 0; j < 64; j++) {
             CHECK.due("text round " + round + " row " + j, page.row(j), stamps.row(j));
         }
     }
 
-    private static void write(GlyphPage page, String line, int units, int size, int y) {
+    private static void write(GlyphPage page, String line, FontMaker maker, int size, int y) {
+        int x = 7;
         for (int i = 0; i < line.length(); i++) {
-            int x = 7;
-            for (int k = 0; k < i; k++) {
-                x += step(page, line.charAt(k), units, size);
-                x += kern(page, line.charAt(k), line.charAt(k + 1), units, size);
-            }
-            page.stamp(page.glyph(line.charAt(i)), x, y);
+            x += i > 0 ? kern(maker, line.charAt(i - 1), line.charAt(i), size) : 0;
+            page.stamp(glyph(maker, line.charAt(i)), x, y);
+            x += step(maker, line.charAt(i), size);
         }
     }
 
-    private static int step(GlyphPage page, char c, int units, int size) {
-        return (int) scaled(page.look(page.glyph(c), 0), units, size);
+    /** As the segments of textRound have it. */
+    private static int glyph(FontMaker maker, char c) {
+        int g = c == ' ' ? 1 : c == '-' ? 2 : c >= 'a' ? c - 'a' + 2 : 0;
+        return g < maker.glyphs.size() ? g : 0;
     }
 
-    private static int kern(GlyphPage page, char a, char b, int units, int size) {
-        return (int) scaled(page.kern(page.glyph(a), page.glyph(b)), units, size);
+    private static int step(FontMaker maker, char c, int size) {
+        return (int) scaled(maker.advances.get(glyph(maker, c)), maker.units, size);
     }
 
-    private static int width(GlyphPage page, String line, int units, int size) {
+    private static int kern(FontMaker maker, char a, char b, int size) {
+        for (int[] pair : maker.pairs) {
+            if (pair[0] == glyph(maker, a) && pair[1] == glyph(maker, b)) {
+                return (int) scaled(pair[2], maker.units, size);
+            }
+        }
+        return 0;
+    }
+
+    private static int width(String line, FontMaker maker, int size) {
         String bare = line;
         while (bare.endsWith(" ")) {
             bare = bare.substring(0, bare.length() - 1);
         }
         int width = 0;
         for (int i = 0; i < bare.length(); i++) {
-            width += step(page, bare.charAt(i), units, size);
-            width += i > 0 ? kern(page, bare.charAt(i - 1), bare.charAt(i), units, size) : 0;
+            width += step(maker, bare.charAt(i), size);
+            width += i > 0 ? kern(maker, bare.charAt(i - 1), bare.charAt(i), size) : 0;
         }
         return width;
     }
 
-    private static List<int[]> lines(String text, GlyphPage page, int units, int size, int width) {
+    private static List<int[]> lines(String text, FontMaker maker, int size, int width) {
         List<int[]> out = new ArrayList<>();
         int begin = 0;
         while (begin < text.length()) {
@@ -262,12 +274,12 @@ public final class OracleTest {
                     continue;
                 }
                 few = end;
-                if (best < 0 && width(page, line, units, size) <= width) {
+                if (best < 0 && width(line, maker, size) <= width) {
                     best = end;
                 }
             }
             int end = best < 0 ? few : best;
-            out.add(new int[] {begin, end, width(page, text.substring(begin, end), units, size)});
+            out.add(new int[] {begin, end, width(text.substring(begin, end), maker, size)});
             begin = end < text.length() && text.charAt(end) == '\n' ? end + 1 : end;
         }
         return out;
@@ -385,30 +397,35 @@ public final class OracleTest {
             maker.add(made.bytes(), 100);
         }
         maker.segments.add(new int[] {65535, 65535, 1, 0});
-        GlyphPage page = new GlyphPage(8, 8);
-        int fault = maker.load(page);
+        int fault = maker.load(new GlyphPage(8, 8));
         boolean tooMany = glyphs.stream().anyMatch(made -> made.contours().length > 32
                 || Arrays.stream(made.contours()).mapToInt(c -> c.length / 3).sum() > 256);
         CHECK.due("font in part round " + round, fault, tooMany ? 8 : 0);
         if (fault == 0) {
             for (int g = 0; g < glyphs.size(); g++) {
-                duePoints(round, page, g, glyphs.get(g).contours());
+                for (int what = 0; what < 4; what++) {
+                    duePoints("part round " + round, maker, new int[] {g, what},
+                            glyphs.get(g).contours());
+                }
             }
         }
     }
 
-    private static void duePoints(int round, GlyphPage page, int g, int[][] contours) {
+    /** With a page for each of the four questions: an object is good for 512 calls alone. */
+    private static void duePoints(String round, FontMaker maker, int[] asked, int[][] contours) {
+        GlyphPage page = new GlyphPage(8, 8);
+        maker.load(page);
+        int g = asked[0];
+        int what = asked[1];
         int k = 0;
         for (int c = 0; c < contours.length; c++) {
             for (int i = 0; i < contours[c].length; i += 3) {
-                for (int what = 0; what < 4; what++) {
-                    CHECK.due("part round " + round + " point(" + g + ", " + k + ", " + what + ")",
-                            page.point(g, k, what), what == 3 ? c : contours[c][i + what]);
-                }
+                CHECK.due(round + " point(" + g + ", " + k + ", " + what + ")",
+                        page.point(g, k, what), what == 3 ? c : contours[c][i + what]);
                 k++;
             }
         }
-        CHECK.due("part round " + round + " points of " + g, page.look(g, 2), k);
-        CHECK.due("part round " + round + " contours of " + g, page.look(g, 1), contours.length);
+        CHECK.due(round + " points of " + g, page.look(g, 2), k);
+        CHECK.due(round + " contours of " + g, page.look(g, 1), contours.length);
     }
 }
