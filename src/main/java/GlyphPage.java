@@ -717,13 +717,12 @@ public final class GlyphPage {
             }
             points = first + last + 1;
             reader.skip(reader.two());
-            readFlags(reader, first);
-            return readAxis(reader, first, xs, SHORT_X, SAME_X)
+            return readFlags(reader, first) && readAxis(reader, first, xs, SHORT_X, SAME_X)
                     && readAxis(reader, first, ys, SHORT_Y, SAME_Y) && reader.isWhole();
         }
 
-        /** What would stand again behind the last point belongs to none, so it is dropped. */
-        private void readFlags(Reader reader, int first) {
+        /** The flags are those for the points: one that stands again behind the last point is a fault. */
+        private boolean readFlags(Reader reader, int first) {
             int again = 0;
             int flag = 0;
             for (int i = first; i < points; i++) {
@@ -736,6 +735,7 @@ public final class GlyphPage {
                 flags[i - first] = flag;
                 on[i] = (flag & ON) != 0;
             }
+            return again == 0;
         }
 
         private boolean readAxis(Reader reader, int first, int[] axis, int shortBit, int sameBit) {

@@ -10,6 +10,7 @@ public final class GlyfEdgeTest extends Edges {
         lastPoints();
         passedOver();
         flagsAgain();
+        flagsBehindTheLast();
         steps();
         stepBytes();
         simpleCoordinates();
@@ -173,9 +174,6 @@ public final class GlyfEdgeTest extends Edges {
         judgedGlyph("how often is missing at the last", points(3, STILL, STILL, STILL + 8), GLYF);
         judgedGlyph("1 and again 127 times", points(128, STILL + 8, 127), GOOD);
         judgedGlyph("1 and again 126 times for 128", points(128, STILL + 8, 126), GLYF);
-        // No more points than there are: what would stand behind them belongs to none.
-        judgedGlyph("1 and again 3 times for 3", points(3, STILL + 8, 3), GOOD);
-        judgedGlyph("1 and again 255 times for 3", points(3, STILL + 8, 255), GOOD);
         byte[] glyph = points(5, 1 + 2 + 16 + 32 + 8, 2, 2 + 16 + 4 + 32, 4 + 16 + 1 + 8, 0,
                 1, 2, 3, 4, 50, 60);
         judgedGlyph("each flag with its own bytes", glyph, GOOD);
@@ -185,6 +183,39 @@ public final class GlyfEdgeTest extends Edges {
         duePoint(page, 2, 2, 6, 0, 1);
         duePoint(page, 2, 3, 10, 50, 0);
         duePoint(page, 2, 4, 10, -10, 1);
+    }
+
+    /** The flags are those for the points: none stands again behind the last one. */
+    private static void flagsBehindTheLast() {
+        sentence("FLAGS for the points: a byte; with 8 another byte, how often it stands again");
+        for (int n : new int[] {1, 2, 3, 127, 128}) {
+            for (int again : new int[] {0, Math.max(0, n - 2), n - 1, n, n + 1, 128, 254, 255}) {
+                // The zeros make good flags and steps for points that are left, so only one too many is wrong.
+                byte[] glyph = points(n, STILL + 8, again);
+                judgedGlyph(n + " points, 1 and again " + again + " times",
+                        java.util.Arrays.copyOf(glyph, glyph.length + 5 * 128), again < n ? GOOD : GLYF);
+            }
+        }
+        judgedGlyph("the last of 3 again no time", points(3, STILL, STILL, STILL + 8, 0), GOOD);
+        judgedGlyph("the last of 3 again once", points(3, STILL, STILL, STILL + 8, 1), GLYF);
+        judgedGlyph("the second of 3 again once", points(3, STILL, STILL + 8, 1), GOOD);
+        judgedGlyph("the second of 3 again 2 times", points(3, STILL, STILL + 8, 2), GLYF);
+        judgedGlyph("two that stand again, 4 for 4", points(4, STILL + 8, 1, STILL + 8, 1), GOOD);
+        judgedGlyph("two that stand again, 5 for 4", points(4, STILL + 8, 1, STILL + 8, 2), GLYF);
+        judgedGlyph("from one contour into the next", header(2).two(0, 2, 0).one(STILL + 8, 2).done(), GOOD);
+        judgedGlyph("behind the last contour", header(2).two(0, 2, 0).one(STILL + 8, 3).done(), GLYF);
+        judgedGlyph("no point, and a byte that is no flag", header(0).two(0).one(STILL + 8, 3).done(), GOOD);
+        // The bytes of steps for the points that there are: also then one flag is too many.
+        judgedGlyph("one of 2 bytes each", points(1, 1 + 8, 0, 0, 7, 0, 9), GOOD);
+        judgedGlyph("one of 2 bytes each, again once", points(1, 1 + 8, 1, 0, 7, 0, 9, 0, 0, 0, 0), GLYF);
+        FontMaker part = with(points(1, STILL + 8, 1));
+        part.add(FontMaker.composite(2, 0, 0), 0);
+        judged("as a part", part, GLYF);
+        GlyphPage page = loaded(with(points(2, STILL + 8, 1)));
+        due("the next file", with(points(2, STILL + 8, 2)).load(page), GLYF);
+        due("the font stays", page.look(2, 2), 2);
+        due("the file after it", with(points(3, STILL + 8, 2)).load(page), GOOD);
+        due("its points", page.look(2, 2), 3);
     }
 
     /** One point, with these flags and these bytes: where it is. */

@@ -234,10 +234,11 @@ final class Judge {
         while (flags.size() < contourOf.size()) {
             int flag = bytes.get();
             int more = (flag & 8) == 0 ? 0 : Byte.toUnsignedInt(bytes.get());
-            for (int i = 0; i <= more && flags.size() < contourOf.size(); i++) {
+            for (int i = 0; i <= more; i++) {
                 flags.add(flag);
             }
         }
+        must(flags.size() == contourOf.size());
         List<Integer> xs = axis(bytes, flags, 2, 16);
         List<Integer> ys = axis(bytes, flags, 4, 32);
         List<Point> points = new ArrayList<>();
